@@ -36,7 +36,7 @@ public final class ModelTest {
         int runs = args.length > 1 ? Integer.parseInt(args[1]) : 1500;
         ModelTest test = new ModelTest(seed);
         for (int run = 0; run < runs && test.wrong < 10; run++) {
-            test.run(run % 25 == 0 ? 10 : 4, run % 3 == 0);
+            test.run(run % 150 == 0 ? 10 : run % 5 == 0 ? 6 : 3, run % 3 == 0);
         }
         System.out.println(runs + " runs, " + test.wrong + " with a wrong answer");
         if (test.wrong != 0) {
@@ -53,7 +53,7 @@ public final class ModelTest {
             right &= sayMost();
         }
         // With ten LOOSE BARS the model takes long.
-        int calls = mostLoose > 4 ? 25 : 90;
+        int calls = mostLoose > 6 ? 25 : 90;
         for (int i = 0; i < calls && right; i++) {
             right = same(randomCall());
         }
@@ -109,7 +109,7 @@ public final class ModelTest {
                 text.append(n < 10 ? "p0" : "p").append(n);
             }
         }
-        if (mostLoose > 4) {
+        if (mostLoose > 6) {
             for (; loose < mostLoose; loose++) {
                 text.append("dwm".charAt(random.nextInt(3)));
             }
