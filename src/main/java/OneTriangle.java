@@ -306,7 +306,8 @@ public final class OneTriangle {
         if (piece.bars == 0) {
             return refusal(NOT);
         }
-        return told(trueInEvening(e), Spread.WHOLE, what);
+        comeTo(e);
+        return told(trueLater(), Spread.WHOLE, what);
     }
 
     public int prime(int what) {
@@ -319,8 +320,12 @@ public final class OneTriangle {
         int best = 0;
         int held = 0;
         long most = -1;
+        long chance = 0;
         for (int e = 0; e < EVENINGS; e++) {
-            long chance = trueInEvening(e);
+            // Most EVENINGS have the ODDS of the one before.
+            if (comeTo(e) || e == 0) {
+                chance = trueLater();
+            }
             if (chance > most) {
                 most = chance;
                 best = e;
@@ -607,14 +612,22 @@ public final class OneTriangle {
         return spread.chanceOf(0);
     }
 
-    private long trueInEvening(int e) {
+    /** Whether the ODDS of that EVENING are others than those of the one looked at before. */
+    private boolean comeTo(int e) {
+        boolean others = false;
         int less = e * settings.valueOf(LEARN) / 4;
         int more = e * settings.valueOf(BORED) / 8;
         for (int kind = DRIFT; kind <= CHANGE; kind++) {
             int doubled = usual.doubledOf(kind);
             int missed = Math.max(0, usual.missedOf(kind) - less) + more;
-            later.become(kind, Math.min(missed, SIXTEENTHS - doubled), doubled);
+            missed = Math.min(missed, SIXTEENTHS - doubled);
+            others = others || missed != later.missedOf(kind) || doubled != later.doubledOf(kind);
+            later.become(kind, missed, doubled);
         }
+        return others;
+    }
+
+    private long trueLater() {
         spread.walk(later, piece.bars - 1, 0, 0);
         return spread.chanceOf(0);
     }
@@ -978,14 +991,16 @@ public final class OneTriangle {
             Arrays.fill(all, 0);
             Arrays.fill(now, 0);
             addTo(now, REACH, START);
+            int furthest = 0;
             for (int bar = 0; bar < piece.bars; bar++) {
                 Arrays.fill(next, 0);
-                for (int place = 0; place < WIDTH; place++) {
+                for (int place = REACH - furthest; place <= REACH + furthest; place++) {
                     if (longAt(now, place) != 0) {
                         pass(bar, place);
                     }
                 }
                 System.arraycopy(next, 0, now, 0, WIDTH);
+                furthest = piece.isLoose(bar) ? Math.min(REACH, furthest + 1) : furthest;
             }
         }
 
@@ -1043,20 +1058,23 @@ public final class OneTriangle {
         /** From BAR 0 on through all BARS ahead of one, with these WRITTEN CUES. */
         void walk(Odds odds, int end, int written, int heard) {
             Arrays.fill(now, 0);
+            Arrays.fill(next, 0);
             addTo(now, REACH, WHOLE);
+            int furthest = 0;
             for (int bar = 0; bar < end; bar++) {
                 if (piece.isLoose(bar)) {
                     int kind = piece.kindOf(bar);
-                    drift(odds.missedOf(kind), odds.doubledOf(kind));
+                    furthest = Math.min(REACH, furthest + 1);
+                    drift(odds.missedOf(kind), odds.doubledOf(kind), furthest);
                 } else if (piece.cueIn(bar) != NONE && (written >> piece.cueIn(bar) & 1) == 1) {
                     gather(heard);
                 }
             }
         }
 
-        private void drift(int missed, int doubled) {
+        private void drift(int missed, int doubled, int furthest) {
             int once = SIXTEENTHS - missed - doubled;
-            for (int i = 0; i < WIDTH; i++) {
+            for (int i = Math.max(0, REACH - furthest); i <= REACH + furthest && i < WIDTH; i++) {
                 next[i] = longAt(now, i + 1) / SIXTEENTHS * missed
                     + longAt(now, i) / SIXTEENTHS * once
                     + longAt(now, i - 1) / SIXTEENTHS * doubled;

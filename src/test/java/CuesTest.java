@@ -7,6 +7,7 @@ public final class CuesTest {
 
     public static void main(String[] args) {
         safe();
+        safeOfAllThereIs();
         safeRefused();
         write();
         writeRefused();
@@ -44,6 +45,24 @@ public final class CuesTest {
         Check.fraction("18: in parts of 16^3", z.safe(7, 0), z.safe(7, 1), 4096 - 15 * 15 * 15, 4096);
     }
 
+    /** Ten LOOSE BARS and three WRITTEN CUES: parts of 16 to the 13th, none of them cut. */
+    private static void safeOfAllThereIs() {
+        String text = "dwcamdwcbmdwmccdx";
+        OneTriangle x = Check.typed(text);
+        Model model = new Model();
+        for (int i = 0; i < text.length(); i++) {
+            model.type(text.charAt(i));
+        }
+        for (int kind = 0; kind < 3; kind++) {
+            x.odds(kind, 2, 3);
+            model.odds(kind, 2, 3);
+        }
+        x.set(6, 11);
+        model.set(6, 11);
+        Check.fraction("18: all", x.safe(7, 0), x.safe(7, 1), model.safe(7, 0), model.safe(7, 1));
+        Check.due("18: in parts of 16^13", x.safe(7, 1), 1L << 52);
+    }
+
     private static void safeRefused() {
         OneTriangle x = Check.typed("cacbcccdx");
         Check.due("18: below 0", x.safe(-1, 0), Check.BAD);
@@ -55,6 +74,7 @@ public final class CuesTest {
         Check.due("18: four", x.safe(15, 0), Check.BAD);
         Check.due("18: three", x.safe(14, 0), 1);
         Check.due("18: three and others", x.safe(7 + 48, 0), 1);
+        Check.due("18: below 0, three CUES at most", Check.typed("dcax").safe(-1, 0), Check.BAD);
         OneTriangle y = new OneTriangle();
         Check.due("18: no BARS", y.safe(63, 1), Check.NOT);
         Check.due("18: BAD ahead of NOT", y.safe(0, 2), Check.BAD);
@@ -133,8 +153,9 @@ public final class CuesTest {
         Check.due("21: below 0", x.anew(-1), -2);
         Check.due("21: no such CUE", x.anew(2), -2);
         Check.due("21: no BARS", new OneTriangle().anew(0), -2);
-        x.odds(0, 16, 0);
         x.set(0, 1);
+        Check.due("21: one by two still", x.anew(0), 1);
+        x.odds(0, 16, 0);
         Check.due("21: heard at all", x.anew(1), 1);
         x.set(0, 0);
         Check.due("21: no tune is heard", x.anew(0), 0);

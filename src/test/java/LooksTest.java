@@ -70,6 +70,8 @@ public final class LooksTest {
         OneTriangle four = withPlayers(50, 1, 50, 2, 50, 3, 50, 4);
         Check.due("27: three looks ahead", four.worth(0), 9);
         Check.due("27: by three", four.worth(1), 14);
+        Check.due("27: the least worth", withPlayers(5, 1).worth(0), 1);
+        Check.due("27: is worth a look", withPlayers(5, 1).worth(1), 1);
         OneTriangle none = new OneTriangle();
         Check.due("27: no PLAYERS", none.worth(0), 0);
         Check.due("27: no bits", none.worth(1), 0);

@@ -69,8 +69,11 @@ public final class PieceTest {
         Check.due("3: again", x.wipe(), 0);
         Check.due("3: typed anew", x.type('x'), 1);
         Check.due("3: one BAR", x.count(0), 1);
+        Check.due("3: a way", x.strike(1, 0), 0);
         x.wipe();
-        Check.due("3: ways are gone", x.likeliest(1), -3);
+        Check.due("3: ways are gone", x.strike(1, 0), Check.NOT);
+        Check.type(x, "p02x");
+        Check.due("2: a way of the new text", x.likeliest(3), 2);
     }
 
     private static void undo() {
@@ -78,6 +81,7 @@ public final class PieceTest {
         Check.due("4: empty", x.undo(), -3);
         Check.type(x, "p03xq");
         Check.due("4: a byte behind x", x.fault(), 4);
+        Check.due("4: no ways", x.likeliest(4), -3);
         Check.due("4: undone", x.undo(), 4);
         Check.due("4: well again", x.fault(), -1);
         Check.due("4: BARS again", x.count(0), 4);
@@ -109,6 +113,7 @@ public final class PieceTest {
         Check.due("5: one figure", Check.faultOf("p1"), 2);
         Check.due("5: one figure and x", Check.faultOf("p1x"), 2);
         Check.due("5: one figure and no figure", Check.faultOf("p1:x"), 2);
+        Check.due("5: one figure and a sign below 0", Check.faultOf("p2/x"), 2);
         Check.due("5: 00", Check.faultOf("p00x"), 2);
         Check.due("5: 01", Check.faultOf("p01x"), -1);
         Check.due("5: 10", Check.faultOf("p10x"), -1);

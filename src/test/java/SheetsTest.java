@@ -49,6 +49,9 @@ public final class SheetsTest {
         OneTriangle x = new OneTriangle();
         Check.due("35: below 0", x.lose(-1), -2);
         Check.due("35: no such SHEET", x.lose(4), -2);
+        Check.due("35: BAD is no FINDING", x.count(8), 0);
+        Check.due("35: LOST at first", x.lose(2), -11);
+        Check.due("35: NULL is told", x.count(8), 1);
         x.sheet(2, 1, 17);
         Check.due("35: had", x.lose(2), 17);
         Check.due("35: LOST", x.get(2, 1, 0), LEAST);
@@ -102,6 +105,7 @@ public final class SheetsTest {
         Check.due("37: SHEET below 0", x.get(-1, 0, 0), LEAST);
         Check.due("37: no such SHEET", x.get(4, 0, 0), LEAST);
         Check.due("37: no such FORM", x.get(0, 3, 0), LEAST);
+        Check.due("37: FORM below 0", x.get(0, -1, 0), LEAST);
         Check.due("37: BAD is no FINDING", x.count(8), 0);
         Check.due("37: NULL", x.get(0, 0, 0), LEAST);
         Check.due("37: NULL is told", x.count(8), 1);
@@ -223,16 +227,25 @@ public final class SheetsTest {
     private static void digest() {
         OneTriangle x = new OneTriangle();
         Check.due("41: new", x.digest(), digestOf(x));
-        Check.type(x, "p03dp02cawp01cbmp12dx");
+        // BARS 19 and 20 are LOOSE, 30 is not the last number, and EVENINGS 8 to 10 differ.
+        Check.type(x, "p03dp02cawp01cbmp08dwp08mdx");
+        x.odds(0, 9, 2);
+        x.set(7, 3);
+        x.set(8, 4);
         Check.due("41: of a piece", x.digest(), digestOf(x));
         x.hear(7, 0);
         x.shown(10, 9);
-        x.player(10, 4);
-        x.player(11, 4);
+        for (int i = 0; i < 3; i++) {
+            x.player(10, 4);
+        }
         x.said(4);
         x.from(4);
         Check.due("41: of all", x.digest(), digestOf(x));
         Check.due("41: the same again", x.digest(), digestOf(x));
+        for (int doubled = 0; doubled <= 12; doubled++) {
+            x.odds(2, 4, doubled);
+            Check.due("41: m DOUBLED by " + doubled, x.digest(), digestOf(x));
+        }
         x.type('q');
         Check.due("41: with a FAULT", x.digest(), digestOf(x));
     }

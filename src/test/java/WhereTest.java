@@ -17,7 +17,10 @@ public final class WhereTest {
         likeliest();
         strike();
         line();
+        lineOfOneWay();
+        lineBeforeADearOne();
         lineByHairs();
+        lineOfSmallCosts();
         slips();
         greatest();
         Check.close();
@@ -209,9 +212,67 @@ public final class WhereTest {
         Check.due("16: all alike, the first", y.line(), 1);
     }
 
+    /** What weighs least, one part of 16 to the 10th, is a way too. */
+    private static void lineOfOneWay() {
+        OneTriangle x = Check.typed("ddddddddddx");
+        x.odds(0, 1, 1);
+        Check.due("16: ten times DOUBLED", x.line(), 21);
+        Check.fraction("13: ten times DOUBLED", x.where(21, 10, 0), x.where(21, 10, 1), 1, 1);
+    }
+
+    /** The last number that can be said costs more than an earlier one. */
+    private static void lineBeforeADearOne() {
+        OneTriangle x = Check.typed("dx");
+        x.odds(0, 8, 4);
+        x.set(2, 0);
+        x.set(3, 15);
+        x.set(4, 1);
+        x.shown(2, 0);
+        x.hear(3, 0);
+        Check.fraction("15: at 1", x.strike(1, 0), x.strike(1, 1), 1, 2);
+        Check.fraction("15: at 2", x.strike(2, 0), x.strike(2, 1), 15, 16);
+        Check.due("15: at 3", x.strike(3, 0), Check.NOT);
+        Check.due("16: at 1", x.line(), 1);
+    }
+
+    /** All costs below 1, so that they differ behind the whole part alone. */
+    private static void lineOfSmallCosts() {
+        java.util.Random random = new java.util.Random(41);
+        for (int run = 0; run < 300; run++) {
+            OneTriangle x = new OneTriangle();
+            Model model = new Model();
+            StringBuilder text = new StringBuilder();
+            for (int i = 0; i < 4; i++) {
+                text.append("dwm".charAt(random.nextInt(3))).append(random.nextBoolean() ? "ca" : "p01");
+            }
+            text.append('x');
+            for (int i = 0; i < text.length(); i++) {
+                x.type(text.charAt(i));
+                model.type(text.charAt(i));
+            }
+            x.set(4, 1);
+            model.set(4, 1);
+            for (int i = 0; i < 3; i++) {
+                int number = 6 + random.nextInt(8);
+                int bar = random.nextInt(9);
+                x.shown(number, bar);
+                model.shown(number, bar);
+            }
+            if (run % 2 == 0) {
+                // Behind a number that cannot be heard there is none that is surely the STROKE's.
+                int last = 8 + run % 5;
+                x.set(2, 0);
+                model.set(2, 0);
+                x.hear(last, 0);
+                model.hear(last, 0);
+            }
+            Check.due("16: by parts of 1, run " + run, x.line(), model.line());
+        }
+    }
+
     /** Costs whose difference is less than a double tells, by the model's big numbers. */
     private static void lineByHairs() {
-        String[] texts = {"dwmdwmdwmdx", "p05dwcap09mdwcbmdwmdx", "ddddddddddx"};
+        String[] texts = {"dwmdwmdwmdx", "p05dwcap09mdwcbmdx", "dddddddx"};
         for (String text : texts) {
             OneTriangle x = Check.typed(text);
             Model model = new Model();
