@@ -5,8 +5,25 @@ final class Check {
 
     private static int right = 0;
     private static int wrong = 0;
+    private static String sentence = "";
+    private static int rightBefore = 0;
 
     private Check() {
+    }
+
+    /** From here on answers belong to this sentence of the document; each has to have some. */
+    static void says(String promise, String words) {
+        endSentence();
+        sentence = promise + " \"" + words + "\": ";
+    }
+
+    private static void endSentence() {
+        if (!sentence.isEmpty() && right == rightBefore) {
+            wrong++;
+            System.out.println(sentence + "no answer was as due");
+        }
+        rightBefore = right;
+        sentence = "";
     }
 
     static void due(String what, long got, long want) {
@@ -14,7 +31,7 @@ final class Check {
             right++;
         } else {
             wrong++;
-            System.out.println(what + " answered " + got + ", due is " + want);
+            System.out.println(sentence + what + " answered " + got + ", due is " + want);
         }
     }
 
@@ -45,6 +62,7 @@ final class Check {
     }
 
     static void close() {
+        endSentence();
         System.out.println(right + " answers as due, " + wrong + " not");
         if (wrong != 0 || right == 0) {
             System.exit(1);

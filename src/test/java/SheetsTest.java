@@ -1,3 +1,6 @@
+import java.util.ArrayList;
+import java.util.List;
+
 /** Promises 34 to 41: sheets, counts, the digest. */
 public final class SheetsTest {
     private static final int LEAST = Integer.MIN_VALUE;
@@ -250,51 +253,40 @@ public final class SheetsTest {
         Check.due("41: with a FAULT", x.digest(), digestOf(x));
     }
 
-    /** By the face alone, in the document's order. */
     private static long digestOf(OneTriangle x) {
-        long[] each = new long[200];
-        int n = 0;
-        for (int what = 0; what <= 7; what++) {
-            each[n++] = x.count(what);
-        }
-        each[n++] = x.fault();
-        for (int number : new int[] {1, 10, 30}) {
-            each[n++] = x.where(number, 9, 0);
-            each[n++] = x.where(number, 9, 1);
-            each[n++] = x.likeliest(number);
-            each[n++] = x.strike(number, 0);
-            each[n++] = x.strike(number, 1);
-        }
-        each[n++] = x.line();
-        for (int slip = -2; slip <= 2; slip++) {
-            each[n++] = x.slips(20, slip, 0);
-            each[n++] = x.slips(20, slip, 1);
-        }
-        each[n++] = x.safe(0, 0);
-        each[n++] = x.safe(0, 1);
-        each[n++] = x.safe(1, 0);
-        each[n++] = x.safe(1, 1);
-        each[n++] = x.write(1);
-        each[n++] = x.write(2);
-        each[n++] = x.few(8);
-        for (int cue = 0; cue < x.count(3); cue++) {
-            each[n++] = x.anew(cue);
-        }
-        each[n++] = x.joint(9, 12, 0);
-        each[n++] = x.joint(9, 12, 1);
-        for (int e : new int[] {0, 9}) {
-            each[n++] = x.evening(e, 0);
-            each[n++] = x.evening(e, 1);
-        }
-        int[] last = {x.prime(0), x.prime(1), x.worth(0), x.worth(1), x.look(9), x.wrong(0), x.wrong(1),
-            x.blame(), x.night(7, 0), x.night(7, 20)};
-        for (int one : last) {
-            each[n++] = one;
-        }
         long h = 17;
-        for (int i = 0; i < n; i++) {
-            h = 31 * h + each[i];
+        for (long one : digested(x)) {
+            h = 31 * h + one;
         }
         return h;
+    }
+
+    /** What digest() goes through, by the face alone, in the document's order. */
+    static List<Long> digested(OneTriangle x) {
+        List<Long> each = new ArrayList<>();
+        for (int what = 0; what <= 7; what++) {
+            each.add((long) x.count(what));
+        }
+        each.add((long) x.fault());
+        for (int number : new int[] {1, 10, 30}) {
+            each.addAll(List.of(x.where(number, 9, 0), x.where(number, 9, 1), (long) x.likeliest(number),
+                x.strike(number, 0), x.strike(number, 1)));
+        }
+        each.add((long) x.line());
+        for (int slip = -2; slip <= 2; slip++) {
+            each.addAll(List.of(x.slips(20, slip, 0), x.slips(20, slip, 1)));
+        }
+        each.addAll(List.of(x.safe(0, 0), x.safe(0, 1), x.safe(1, 0), x.safe(1, 1)));
+        each.addAll(List.of((long) x.write(1), (long) x.write(2), (long) x.few(8)));
+        for (int cue = 0; cue < x.count(3); cue++) {
+            each.add((long) x.anew(cue));
+        }
+        each.addAll(List.of(x.joint(9, 12, 0), x.joint(9, 12, 1)));
+        each.addAll(List.of(x.evening(0, 0), x.evening(0, 1), x.evening(9, 0), x.evening(9, 1)));
+        for (int one : new int[] {x.prime(0), x.prime(1), x.worth(0), x.worth(1), x.look(9), x.wrong(0), x.wrong(1),
+            x.blame(), x.night(7, 0), x.night(7, 20)}) {
+            each.add((long) one);
+        }
+        return each;
     }
 }
