@@ -14,6 +14,7 @@ public final class CuesEdgesTest {
         safeRefused();
         writeRange();
         writeOfLikeOnes();
+        writeJustSoMany();
         writeRefused();
         fewRange();
         fewIsNone();
@@ -140,6 +141,22 @@ public final class CuesEdgesTest {
         // The last alone makes it sure, so with it any other is as good.
         Check.due("always heard, one", z.write(1), 4);
         Check.due("always heard, two", z.write(2), 5);
+    }
+
+    private static void writeJustSoMany() {
+        Check.says("19", "the k CUES by which it is greatest");
+        OneTriangle x = Check.typed("dcawx");
+        x.odds(0, 16, 0);
+        x.odds(1, 0, 16);
+        Check.due("one, though none were better", x.write(1), 1);
+        Check.due("none", x.write(0), 0);
+        OneTriangle y = Check.typed("dcacbccdx");
+        y.odds(0, 16, 0);
+        y.set(6, 0);
+        for (int k = 0; k <= 3; k++) {
+            Check.due("so many, though none does anything: " + k, y.write(k), (1 << k) - 1);
+        }
+        Check.due("it is 0 by all", y.safe(7, 0), 0);
     }
 
     private static void writeRefused() {

@@ -333,6 +333,10 @@ public final class LooksEdgesTest {
         Check.due("far behind", recorded("dx", 98, 9).blame(), -1);
         Check.due("none is wrong", recorded("dx", 1, 2).blame(), -1);
         Check.due("empty", recorded("dx", 1).blame(), -1);
+        for (int from = 0; from <= 10; from++) {
+            Check.due("none is wrong from " + from, recorded("dwmdwmdwmdx", from, from + 1).blame(), -1);
+            Check.due("empty from " + from, recorded("dwmdwmdwmdx", from).blame(), -1);
+        }
         Check.due("no BARS", recorded("", 1, 9).blame(), -1);
         Check.due("with a FAULT", recorded("dxx", 1, 9).blame(), -1);
         int[] twenty = {1, 2, 3, 4, 5, 6, 7, 8, 9, 10, 11, 12, 13, 14, 15, 16, 17, 18, 19, 19};

@@ -32,6 +32,7 @@ public final class SheetsEdgesTest {
         countOfFindings();
         digestOfRefusals();
         digestOfCues();
+        digestOfJustThese();
         digestWraps();
         Check.close();
     }
@@ -463,6 +464,24 @@ public final class SheetsEdgesTest {
             OneTriangle x = Check.typed(text);
             Check.due(text, x.digest(), bigDigestOf(x));
         }
+    }
+
+    private static void digestOfJustThese() {
+        Check.says("41", "few(8) (as they are told)");
+        OneTriangle x = Check.typed("dcax");
+        x.odds(0, 8, 0);
+        Check.due("none by 8", x.few(8), 0);
+        Check.due("one by 9", x.few(9), 1);
+        Check.due("digest", x.digest(), bigDigestOf(x));
+        Check.says("41", "of EVENINGS 0, 9 evening()");
+        OneTriangle y = Check.typed("dx");
+        y.odds(0, 12, 0);
+        y.set(7, 4);
+        y.set(8, 0);
+        Check.due("EVENING 8", y.evening(8, 0), 3);
+        Check.due("EVENING 9", y.evening(9, 0), 13);
+        Check.due("EVENING 10", y.evening(10, 0), 7);
+        Check.due("digest", y.digest(), bigDigestOf(y));
     }
 
     private static void digestWraps() {

@@ -1,3 +1,6 @@
+import java.math.BigInteger;
+import java.util.Random;
+
 /** The boundary cases that the document names of NOTES, WHERE, STRIKE, LINE and SLIPS (10 to 17). */
 public final class WhereEdgesTest {
     private static final int LEAST = Integer.MIN_VALUE, GREATEST = Integer.MAX_VALUE;
@@ -28,6 +31,7 @@ public final class WhereEdgesTest {
         lineIsNone();
         lineAtTheLastNumber();
         leaveAtFirst();
+        lineByCrossProducts();
         slipsAtTheEnds();
         slipsBelowZero();
         slipsRefused();
@@ -424,6 +428,50 @@ public final class WhereEdgesTest {
             x.set(5, 0);
             Check.due("LEAVE 0, EARLY " + early[i], x.line(), -1);
         }
+    }
+
+    /** Of all that strike() tells, by big numbers, so that costs a hair apart are told apart. */
+    private static void lineByCrossProducts() {
+        Check.says("16", "the number at which it costs least, of like ones the least; NONE");
+        Random random = new Random(16);
+        for (int run = 0; run < 400; run++) {
+            OneTriangle x = Check.typed("dwmdwcamdwmcbdp0" + (1 + random.nextInt(4)) + "x");
+            for (int kind = 0; kind <= 2; kind++) {
+                x.odds(kind, 1 + random.nextInt(8), 1 + random.nextInt(8));
+            }
+            for (int what = 0; what <= 3; what++) {
+                x.set(what, random.nextInt(17));
+            }
+            x.set(4, run % 2 == 0 ? 1 : 1 + random.nextInt(99));
+            x.set(5, 1 + random.nextInt(99));
+            // Often no number behind one of these is surely the STROKE's.
+            x.set(2, run % 4 < 2 ? 0 : 1 + random.nextInt(16));
+            x.hear(13 + random.nextInt(9), random.nextInt(2));
+            for (int i = 0; i < 3; i++) {
+                x.shown(6 + random.nextInt(14), 10 + random.nextInt(5));
+            }
+            Check.due("run " + run, x.line(), leastByCrossProducts(x));
+        }
+    }
+
+    private static int leastByCrossProducts(OneTriangle x) {
+        int best = -1;
+        int leave = x.set(5, 0);
+        x.set(5, leave);
+        BigInteger above = BigInteger.valueOf(leave);
+        BigInteger below = BigInteger.ONE;
+        for (int number = 1; number <= 30; number++) {
+            if (x.strike(number, 1) > 0) {
+                BigInteger a = BigInteger.valueOf(x.strike(number, 0));
+                BigInteger b = BigInteger.valueOf(x.strike(number, 1));
+                if (a.multiply(below).compareTo(above.multiply(b)) < 0) {
+                    best = number;
+                    above = a;
+                    below = b;
+                }
+            }
+        }
+        return best;
     }
 
     private static void slipsBelowZero() {
